@@ -133,7 +133,7 @@ public final class ToteHouse {
         int touched = 0;
         for (int t = 0; t < ticketCount; t++) {
             if (tickets[t].state == LIVE && tickets[t].isFor(told, runner)) {
-                tickets[t].loseRunner(told, runner);
+                tickets[t].loseRunner(told);
                 touched++;
             }
         }
@@ -1207,7 +1207,7 @@ public final class ToteHouse {
         }
 
         /** The RUNNER is OUT already, so a SUBSTITUTE that is this RUNNER does not serve. */
-        void loseRunner(Race race, int runner) {
+        void loseRunner(Race race) {
             if (pool.kind != DOUBLE || race.substitute == 0 || race.isOut(race.substitute)) {
                 refund();
                 return;
@@ -1243,12 +1243,8 @@ public final class ToteHouse {
             cost = 0;
             due = 0;
             boolean isVoid = pool.isVoid(first.running);
-            if (!isVoid && pool.kind == PLACE) {
-                takePlaced(pool, first);
-            } else if (!isVoid && pool.kind == DOUBLE) {
-                takeDoubles(pool, first, second);
-            } else if (!isVoid) {
-                takeRows(pool, first);
+            if (!isVoid) {
+                findTakers(pool, first, second);
             }
             refunds = isVoid || (takers == 0 && pool.kind != ORDER);
             if (refunds) {
@@ -1262,6 +1258,20 @@ public final class ToteHouse {
                 carriedOut = net;
             } else {
                 share(pool, net);
+            }
+        }
+
+        private void findTakers(Pool pool, Finish first, Finish second) {
+            switch (pool.kind) {
+                case PLACE:
+                    takePlaced(pool, first);
+                    break;
+                case DOUBLE:
+                    takeDoubles(pool, first, second);
+                    break;
+                default:
+                    takeRows(pool, first);
+                    break;
             }
         }
 
@@ -1532,7 +1542,7 @@ public final class ToteHouse {
      */
     private static final class Floats {
         static final int NO_NUMBER = 0x7FC00000, ENDLESS = 0x7F800000;
-        static final int SIGN = 0x80000000, TOP = 0x800000, LEAST_POWER = -149;
+        static final int SIGN = 0x80000000, TOP = 0x800000, LEAST_POWER = -149, MOST_POWER = 104;
 
         static boolean isNumber(int bits) {
             return (bits & ENDLESS) != ENDLESS;
@@ -1577,7 +1587,7 @@ public final class ToteHouse {
             }
             float value = size;
             int power = 0;
-            for (int step = 0; step < 128 && value >= 2f * TOP; step++) {
+            while (value >= 2f * TOP && power < MOST_POWER) {
                 value = value * 0.5f;
                 power++;
             }
@@ -1608,18 +1618,16 @@ public final class ToteHouse {
 
         private static int sizeOfRemainder(int lap, int step) {
             int above = power(lap) - power(step);
-            long divisor = Math.max(mantissa(step), 1);
-            long rest = mantissa(lap);
             if (above < 0) {
-                // a step of 2 to the 25 or more, by the LAP's power, is greater than any mantissa
-                rest = rest % (divisor << Math.min(-above, 25));
-                return pack((int) rest, power(lap));
+                // a step of a greater power has a full mantissa, and so is greater than the LAP
+                return lap & ~SIGN;
             }
-            rest = rest % divisor;
+            int divisor = Math.max(mantissa(step), 1);
+            int rest = mantissa(lap) % divisor;
             for (int i = 0; i < above; i++) {
                 rest = rest * 2 % divisor;
             }
-            return pack((int) rest, power(step));
+            return pack(rest, power(step));
         }
     }
 }

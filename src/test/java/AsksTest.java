@@ -11,6 +11,7 @@ public final class AsksTest {
         count();
         countOfFindings();
         digest();
+        digestOfFirstAndLastPool();
         Expect.end();
     }
 
@@ -210,6 +211,24 @@ public final class AsksTest {
             1, 2, 4, 3,
             3, 2, 5, 1,
             36));
+    }
+
+    private static void digestOfFirstAndLastPool() {
+        ToteHouse x = new ToteHouse();
+        x.race(2);
+        x.race(2);
+        x.pool(0, 0, 0, 10);
+        x.twin(0, 1, 0, 10);
+        x.sell(0, 48, 2, 1, 0, 6);
+        x.sell(0, 0, 2, 0, 0, 3);
+        due("50: POOLS 0 and 48", x.digest(), of(
+            0, 0, 0, 0,
+            0, 0, 0, 0,
+            0, 30, 0, 0, 0, 0, 0, 0, 0, 0, 0, 0,
+            48, 60, 0, 0, 0, 0, 0, 0, 0, 0, 0, 0,
+            2, 1, 6, 0,
+            2, 0, 3, 0,
+            0));
     }
 
     private static long of(int... numbers) {

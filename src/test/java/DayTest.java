@@ -86,6 +86,8 @@ public final class DayTest {
         due("2: a thirteenth", x.race(5), FULL);
         due("2: OUTSIDE ahead of FULL", x.race(1), OUTSIDE);
         due("2: count(0) of twelve", x.count(0), 12);
+        due("2: race 11", x.raceAt(11, 1), 5);
+        due("2: no race 12", x.raceAt(12, 1), UNKNOWN);
     }
 
     private static void pool() {
@@ -301,6 +303,14 @@ public final class DayTest {
         x.place(0, 1, 1);
         x.place(0, 5, 6);
         due("9: a gap", x.official(0), STATE);
+        x.place(0, 5, 0);
+        x.place(0, 1, 9);
+        x.place(0, 2, 1);
+        x.place(0, 4, 3);
+        due("9: a gap ahead of the last one, the first by number", x.official(0), STATE);
+        x.place(0, 1, 1);
+        x.place(0, 2, 2);
+        x.place(0, 4, 4);
         due("9: OFF still", x.raceAt(0, 0), 1);
         due("9: not SETTLED", x.book(0, 10), 0);
         x.place(0, 5, 0);

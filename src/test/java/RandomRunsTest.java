@@ -30,6 +30,7 @@ public final class RandomRunsTest {
 
     private final Random random;
     private final int mostRunners;
+    private final int edgeOdds;
     private final boolean shops;
     private final ToteHouse house = new ToteHouse();
     private final PlainTote model = new PlainTote();
@@ -38,7 +39,8 @@ public final class RandomRunsTest {
 
     private RandomRunsTest(long seed) {
         random = new Random(seed);
-        mostRunners = 2 + random.nextInt(seed % 8 == 0 ? 11 : 6);
+        mostRunners = seed % 8 == 0 ? 12 : 2 + random.nextInt(6);
+        edgeOdds = seed % 10 == 0 ? 4 : 40;
         shops = random.nextInt(4) != 0;
     }
 
@@ -140,7 +142,7 @@ public final class RandomRunsTest {
     }
 
     private int number(String what) {
-        if (random.nextInt(40) == 0) {
+        if (random.nextInt(edgeOdds) == 0) {
             int[] edges = {-1, 0, 1, 2, 12, 13, 48, 49, 200, Integer.MAX_VALUE, Integer.MIN_VALUE};
             return edges[random.nextInt(edges.length)];
         }

@@ -165,6 +165,9 @@ public final class SatchelsTest {
         due("38: NOTHING", x.shift(0, 5, 1, 1, 1), 1);
         due("38: NOTHING is there", x.held(1, 1), NONE);
         due("38: none", x.shift(0, 99, 1, 99, 0), 0);
+        x.satchel(2, 0, 10);
+        x.satchel(3, 0, 10);
+        due("38: ten", x.shift(2, 0, 3, 0, 10), 10);
     }
 
     private static void shiftWithinOne() {
@@ -284,6 +287,9 @@ public final class SatchelsTest {
         due("41: they are there still", x.held(0, 1), 0);
         due("41: again", x.cash(0), 0);
         due("20: unclaimed", x.unclaimed(), 600);
+        x.satchel(3, 0, 1);
+        x.gather(3, 0, 0, 5, 1);
+        due("41: one alone, at place 0", x.cash(3), 600);
         x.satchel(2, 0, 0);
         due("41: no places", x.cash(2), 0);
     }

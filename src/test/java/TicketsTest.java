@@ -13,6 +13,7 @@ public final class TicketsTest {
         pay();
         ticket();
         units();
+        unitsOfTwelveRunners();
         dividend();
         winWithADeadHeat();
         placeByRunners();
@@ -129,6 +130,8 @@ public final class TicketsTest {
         due("11: one more", x.sell(0, WIN, 1, 0, 0, 1), FULL);
         due("11: OUTSIDE ahead of FULL", x.sell(0, WIN, 5, 0, 0, 1), OUTSIDE);
         due("11: 200", x.count(2), 200);
+        due("11: ticket 199", x.ticket(199, 1), 4);
+        due("11: no ticket 200", x.ticket(200, 0), UNKNOWN);
         x.off(0);
         due("11: STATE ahead of FULL", x.sell(0, WIN, 1, 0, 0, 1), STATE);
     }
@@ -242,6 +245,38 @@ public final class TicketsTest {
         due("15: THE DOUBLE, the other way", x.units(DOUBLE, 2, 1, 0), 0);
         x.scratch(0, 1);
         due("15: of RUNNERS that are OUT", x.units(PAIR, 1, 2, 0), 0);
+    }
+
+    /** No two PAIRS, ORDERS, DOUBLES of twelve RUNNERS share their UNITS. */
+    private static void unitsOfTwelveRunners() {
+        ToteHouse x = dayOf(12, 0, 10);
+        x.race(12);
+        x.twin(0, 1, 0, 10);
+        for (int a = 1; a <= 12; a++) {
+            for (int b = 1; b <= 12; b++) {
+                x.sell(0, DOUBLE, a, b, 0, 12 * a + b);
+            }
+        }
+        for (int a = 1; a <= 12; a++) {
+            for (int b = 1; b <= 12; b++) {
+                due("15: THE DOUBLE " + a + ", " + b, x.units(DOUBLE, a, b, 0), 12 * a + b);
+            }
+        }
+        for (int t = 0; t < 5; t++) {
+            ToteHouse y = dayOf(12, 0, 10);
+            for (int a = 1; a <= 12; a++) {
+                y.sell(0, ORDER, a, a % 12 + 1, (a + 4 + t) % 12 + 1, a);
+                y.sell(0, PAIR, a, a % 12 + 1, 0, a);
+            }
+            int orders = 0;
+            int pairs = 0;
+            for (int row = 0; row < 12 * 12 * 12; row++) {
+                orders += Math.max(0, y.units(ORDER, 1 + row / 144, 1 + row / 12 % 12, 1 + row % 12));
+                pairs += row < 144 ? Math.max(0, y.units(PAIR, 1 + row / 12, 1 + row % 12, 0)) : 0;
+            }
+            due("15: all ORDERS together", orders, 78);
+            due("15: all PAIRS together, each by both orders", pairs, 2 * 78);
+        }
     }
 
     private static void dividend() {
@@ -372,6 +407,11 @@ public final class TicketsTest {
         z.sell(0, PAIR, 1, 3, 0, 10);
         finish(z, 0, 1, 1, 3, 4, 0);
         due("16: two firsts are one TAKER", z.dividend(PAIR, 1, 2, 0), 20);
+        ToteHouse v = dayOf(2, 0, 10);
+        v.sell(0, PAIR, 1, 2, 0, 10);
+        finish(v, 0, 2, 1);
+        due("16: two RUNNERS are enough", v.dividend(PAIR, 1, 2, 0), 10);
+        due("18: nothing given back", v.book(PAIR, 2), 0);
         ToteHouse w = dayOf(3, 100, 10);
         w.sell(0, PAIR, 1, 2, 0, 10);
         w.scratch(0, 1);
@@ -403,6 +443,12 @@ public final class TicketsTest {
         y.sell(0, ORDER, 1, 3, 4, 9);
         finish(y, 0, 1, 2, 3, 3, 0);
         due("16: one third", y.dividend(ORDER, 1, 2, 3), 60);
+        ToteHouse z = dayOf(3, 0, 10);
+        z.sell(0, ORDER, 3, 2, 1, 4);
+        z.sell(0, PAIR, 3, 2, 0, 4);
+        finish(z, 0, 3, 2, 1);
+        due("16: the greatest number first, the least last", z.dividend(ORDER, 3, 2, 1), 10);
+        due("16: and its PAIR", z.dividend(PAIR, 3, 2, 0), 10);
         due("16: the other third", y.dividend(ORDER, 1, 2, 4), 60);
         due("16: not so", y.dividend(ORDER, 2, 1, 4), 0);
     }
@@ -486,6 +532,24 @@ public final class TicketsTest {
         due("16: THE DOUBLE of the other first", x.dividend(DOUBLE, 2, 3, 0), 60);
         due("16: the other way round", x.dividend(DOUBLE, 3, 1, 0), 0);
         due("18: BREAKAGE", x.book(DOUBLE, 6), 270 - 70 - 120);
+        due("49: DEDUCTED of THE DOUBLE, too", x.count(5), 30);
+        ToteHouse y = new ToteHouse();
+        y.race(3);
+        y.race(3);
+        y.twin(0, 1, 0, 10);
+        for (int a = 1; a <= 3; a++) {
+            for (int b = 1; b <= 3; b++) {
+                y.sell(0, DOUBLE, a, b, 0, 1);
+            }
+        }
+        finish(y, 0, 3, 1, 1);
+        finish(y, 1, 1, 1, 3);
+        for (int a = 1; a <= 3; a++) {
+            for (int b = 1; b <= 3; b++) {
+                // four TAKERS of 22 each
+                due("16: THE DOUBLE " + a + ", " + b, y.dividend(DOUBLE, a, b, 0), a > 1 && b < 3 ? 20 : 0);
+            }
+        }
     }
 
     private static void noTakers() {
@@ -536,6 +600,8 @@ public final class TicketsTest {
         due("17: PLACE of two", x.odds(PLACE, 1, 2, 0), 30);
         due("17: PAIR, in either order", x.odds(PAIR, 2, 1, 4), 20);
         due("17: PAIR of two alone", x.odds(PAIR, 1, 2, 0), 20);
+        due("17: RUNNER 1 third", x.odds(ORDER, 3, 2, 1), 0);
+        due("17: PLACE with RUNNER 1 third", x.odds(PLACE, 3, 2, 1), 20);
         due("17: ORDER", x.odds(ORDER, 2, 1, 3), 10);
         due("17: ORDER, of the other", x.odds(ORDER, 1, 2, 3), 20);
         due("17: ORDER of two alone", x.odds(ORDER, 2, 1, 0), 0);
