@@ -19,23 +19,6 @@ public final class AsksTest {
         Expect.due(call, got, want);
     }
 
-    /** TICKETS 0 to 4 of KINDS 0 to 4. */
-    private static ToteHouse sold(int units) {
-        ToteHouse x = new ToteHouse();
-        x.race(5);
-        x.race(5);
-        for (int kind = 0; kind < 4; kind++) {
-            x.pool(0, kind, 0, 10);
-        }
-        x.twin(0, 1, 0, 10);
-        x.sell(0, 0, 1, 0, 0, units);
-        x.sell(0, 1, 1, 0, 0, units);
-        x.sell(0, 2, 1, 2, 0, units);
-        x.sell(0, 3, 1, 2, 3, units);
-        x.sell(0, 48, 1, 2, 0, units);
-        return x;
-    }
-
     private static void asks(ToteHouse x, int ticket, int what, int want, int... bodies) {
         String call = "46: ask(" + ticket + ", " + what + ")";
         due(call, x.ask(ticket, what), want);
@@ -47,7 +30,7 @@ public final class AsksTest {
     }
 
     private static void ask() {
-        ToteHouse x = sold(7);
+        ToteHouse x = Days.ofAllKinds(7);
         asks(x, 0, 0, 7, 10);
         asks(x, 1, 0, 3, 11, 10);
         asks(x, 2, 0, 21, 12, 10);
@@ -63,17 +46,17 @@ public final class AsksTest {
     }
 
     private static void askOfOneUnit() {
-        ToteHouse x = sold(1);
+        ToteHouse x = Days.ofAllKinds(1);
         asks(x, 1, 0, 0, 11, 10);
         asks(x, 1, 1, 3, 22);
         asks(x, 0, 1, 5, 20, 10);
         asks(x, 3, 1, 23, 21, 20, 13, 12, 10);
-        asks(sold(2), 1, 1, 5, 22, 20, 11, 10);
-        asks(sold(1000), 3, 1, 29993, 21, 20, 13, 12, 10);
+        asks(Days.ofAllKinds(2), 1, 1, 5, 22, 20, 11, 10);
+        asks(Days.ofAllKinds(1000), 3, 1, 29993, 21, 20, 13, 12, 10);
     }
 
     private static void askRefusals() {
-        ToteHouse x = sold(1);
+        ToteHouse x = Days.ofAllKinds(1);
         x.ask(0, 0);
         due("46: ticket 5", x.ask(5, 0), UNKNOWN);
         due("46: emptied all the same", x.count(4), 0);
@@ -85,7 +68,7 @@ public final class AsksTest {
     }
 
     private static void trace() {
-        ToteHouse x = sold(1);
+        ToteHouse x = Days.ofAllKinds(1);
         due("47: before", x.trace(0), NONE);
         x.ask(3, 0);
         due("47: 0", x.trace(0), 13);
@@ -147,7 +130,7 @@ public final class AsksTest {
     }
 
     private static void count() {
-        ToteHouse x = sold(3);
+        ToteHouse x = Days.ofAllKinds(3);
         int[] want = {2, 5, 5, 5, 0, 0};
         for (int what = 0; what < 6; what++) {
             due("49: count(" + what + ")", x.count(what), want[what]);

@@ -25,23 +25,6 @@ public final class DayTest {
         Expect.due(call, got, want);
     }
 
-    /** A day of one RACE with all its POOLS, no deduction, a unit of 10. */
-    private static ToteHouse dayOf(int runners) {
-        ToteHouse x = new ToteHouse();
-        x.race(runners);
-        for (int kind = 0; kind < 4; kind++) {
-            x.pool(0, kind, 0, 10);
-        }
-        return x;
-    }
-
-    private static void finish(ToteHouse x, int race, int... positions) {
-        x.off(race);
-        for (int i = 0; i < positions.length; i++) {
-            x.place(race, i + 1, positions[i]);
-        }
-    }
-
     private static void newObject() {
         ToteHouse x = new ToteHouse();
         for (int what = 0; what <= 5; what++) {
@@ -175,7 +158,7 @@ public final class DayTest {
     }
 
     private static void scratchRefunds() {
-        ToteHouse x = dayOf(5);
+        ToteHouse x = Days.ofOneRace(5, 0, 10);
         x.race(5);
         x.pool(1, 0, 0, 10);
         x.sell(0, 0, 2, 0, 0, 1);
@@ -238,7 +221,7 @@ public final class DayTest {
     }
 
     private static void scratchRefusals() {
-        ToteHouse x = dayOf(3);
+        ToteHouse x = Days.ofOneRace(3, 0, 10);
         due("6: no race", x.scratch(1, 1), UNKNOWN);
         due("6: runner 0", x.scratch(0, 0), OUTSIDE);
         due("6: runner 4", x.scratch(0, 4), OUTSIDE);
@@ -251,20 +234,20 @@ public final class DayTest {
     }
 
     private static void off() {
-        ToteHouse x = dayOf(5);
+        ToteHouse x = Days.ofOneRace(5, 0, 10);
         due("7: no race", x.off(1), UNKNOWN);
         due("7: race -1", x.off(-1), UNKNOWN);
         x.scratch(0, 3);
         due("7: those not OUT", x.off(0), 4);
         due("7: its state", x.raceAt(0, 0), 1);
         due("7: twice", x.off(0), STATE);
-        finish(x, 0, 1, 2, 0, 3, 4);
+        Days.run(x, 0, 1, 2, 0, 3, 4);
         x.official(0);
         due("7: OFFICIAL", x.off(0), STATE);
     }
 
     private static void place() {
-        ToteHouse x = dayOf(4);
+        ToteHouse x = Days.ofOneRace(4, 0, 10);
         x.scratch(0, 4);
         due("8: no race", x.place(1, 1, 1), UNKNOWN);
         due("8: UNKNOWN ahead of OUTSIDE", x.place(1, 1, 99), UNKNOWN);
@@ -289,10 +272,10 @@ public final class DayTest {
     }
 
     private static void officialRefusals() {
-        ToteHouse x = dayOf(5);
+        ToteHouse x = Days.ofOneRace(5, 0, 10);
         due("9: no race", x.official(1), UNKNOWN);
         due("9: SELLING", x.official(0), STATE);
-        finish(x, 0, 1, 2);
+        Days.run(x, 0, 1, 2);
         due("9: two of five have one", x.official(0), STATE);
         x.place(0, 3, 2);
         x.place(0, 4, 3);
@@ -321,7 +304,7 @@ public final class DayTest {
     }
 
     private static void officialWithFewRunners() {
-        ToteHouse x = dayOf(4);
+        ToteHouse x = Days.ofOneRace(4, 0, 10);
         x.scratch(0, 1);
         x.scratch(0, 2);
         x.off(0);
@@ -346,16 +329,16 @@ public final class DayTest {
         x.pool(0, 0, 0, 10);
         x.pool(2, 1, 0, 10);
         x.twin(0, 2, 0, 10);
-        finish(x, 2, 1, 2, 3);
+        Days.run(x, 2, 1, 2, 3);
         due("9: the SECOND first: PLACE alone", x.official(2), 1);
         due("9: THE DOUBLE waits", x.book(48, 10), 0);
-        finish(x, 1, 1, 2, 3);
+        Days.run(x, 1, 1, 2, 3);
         due("9: a RACE of none of them", x.official(1), 0);
-        finish(x, 0, 1, 2, 3);
+        Days.run(x, 0, 1, 2, 3);
         due("9: the FIRST: WIN and THE DOUBLE", x.official(0), 2);
         due("9: SETTLED", x.book(48, 10), 1);
         x.race(3);
-        finish(x, 3, 1, 2, 3);
+        Days.run(x, 3, 1, 2, 3);
         due("9: but once", x.official(3), 0);
     }
 

@@ -27,18 +27,7 @@ public final class DrawersTest {
 
     /** TICKETS 0 to 4 of KINDS 0 to 4, and a DRAWER of six SLIPS at WINDOW 0: a TICKET, a NOTE, a ROW, NOTHING. */
     private static ToteHouse furnished() {
-        ToteHouse x = new ToteHouse();
-        x.race(5);
-        x.race(5);
-        for (int kind = 0; kind < 4; kind++) {
-            x.pool(0, kind, 0, 10);
-        }
-        x.twin(0, 1, 0, 10);
-        x.sell(0, 0, 1, 0, 0, 1);
-        x.sell(0, 1, 1, 0, 0, 1);
-        x.sell(0, 2, 1, 2, 0, 1);
-        x.sell(0, 3, 1, 2, 3, 1);
-        x.sell(0, 48, 1, 2, 0, 1);
+        ToteHouse x = Days.ofAllKinds(1);
         x.drawer(0, 6);
         x.keep(0, 0, 3);
         x.note(0, 1, 0x0041004200430044L, 4);

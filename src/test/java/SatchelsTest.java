@@ -25,18 +25,7 @@ public final class SatchelsTest {
 
     /** TICKETS 0 to 4 of KINDS 0 to 4 in SLIPS 0 to 4 of WINDOW 0; then NOTHING, a NOTE, a ROW. */
     private static ToteHouse furnished() {
-        ToteHouse x = new ToteHouse();
-        x.race(5);
-        x.race(5);
-        for (int kind = 0; kind < 4; kind++) {
-            x.pool(0, kind, 0, 10);
-        }
-        x.twin(0, 1, 0, 10);
-        x.sell(0, 0, 1, 0, 0, 1);
-        x.sell(0, 1, 1, 0, 0, 1);
-        x.sell(0, 2, 1, 2, 0, 1);
-        x.sell(0, 3, 1, 2, 3, 1);
-        x.sell(0, 48, 1, 2, 0, 1);
+        ToteHouse x = Days.ofAllKinds(1);
         x.drawer(0, 8);
         for (int t = 0; t < 5; t++) {
             x.keep(0, t, t);

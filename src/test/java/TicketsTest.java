@@ -40,30 +40,8 @@ public final class TicketsTest {
         Expect.due(call, got, want);
     }
 
-    private static ToteHouse dayOf(int runners, int deduction, int unit) {
-        ToteHouse x = new ToteHouse();
-        addRace(x, runners, deduction, unit);
-        return x;
-    }
-
-    private static void addRace(ToteHouse x, int runners, int deduction, int unit) {
-        int race = x.race(runners);
-        for (int kind = 0; kind < 4; kind++) {
-            x.pool(race, kind, deduction, unit);
-        }
-    }
-
-    /** Ends a RACE, with POSITIONS of RUNNERS 1, 2, .. */
-    private static int finish(ToteHouse x, int race, int... positions) {
-        x.off(race);
-        for (int i = 0; i < positions.length; i++) {
-            x.place(race, i + 1, positions[i]);
-        }
-        return x.official(race);
-    }
-
     private static void sell() {
-        ToteHouse x = dayOf(4, 0, 20);
+        ToteHouse x = Days.ofOneRace(4, 0, 20);
         x.race(2);
         x.twin(0, 1, 0, 10);
         due("11: WIN", x.sell(0, WIN, 4, 0, 0, 1), 0);
@@ -79,7 +57,7 @@ public final class TicketsTest {
     }
 
     private static void sellRefusals() {
-        ToteHouse x = dayOf(4, 0, 10);
+        ToteHouse x = Days.ofOneRace(4, 0, 10);
         x.race(2);
         x.twin(0, 1, 0, 10);
         due("11: window 6", x.sell(6, WIN, 1, 0, 0, 1), UNKNOWN);
@@ -123,7 +101,7 @@ public final class TicketsTest {
     }
 
     private static void sellUntilFull() {
-        ToteHouse x = dayOf(4, 0, 10);
+        ToteHouse x = Days.ofOneRace(4, 0, 10);
         for (int t = 0; t < 200; t++) {
             due("11: ticket " + t, x.sell(t % 6, WIN, 1 + t % 4, 0, 0, 1), t);
         }
@@ -137,7 +115,7 @@ public final class TicketsTest {
     }
 
     private static void cancel() {
-        ToteHouse x = dayOf(4, 0, 30);
+        ToteHouse x = Days.ofOneRace(4, 0, 30);
         x.sell(0, WIN, 1, 0, 0, 7);
         x.sell(0, WIN, 1, 0, 0, 2);
         x.sell(0, WIN, 2, 0, 0, 2);
@@ -170,7 +148,7 @@ public final class TicketsTest {
     }
 
     private static void pay() {
-        ToteHouse x = dayOf(4, 100, 100);
+        ToteHouse x = Days.ofOneRace(4, 100, 100);
         x.sell(0, WIN, 1, 0, 0, 3);
         x.sell(0, WIN, 2, 0, 0, 7);
         x.sell(0, WIN, 1, 0, 0, 1);
@@ -179,7 +157,7 @@ public final class TicketsTest {
         due("13: not SETTLED", x.pay(0), STATE);
         x.off(0);
         due("13: OFF", x.pay(0), STATE);
-        finish(x, 0, 1, 2, 3);
+        Days.finish(x, 0, 1, 2, 3);
         // 1000 less 100 is 900, by 3 UNITS 300
         due("13: DUE", x.pay(0), 900);
         due("13: PAID", x.ticket(0, 5), 3);
@@ -193,7 +171,7 @@ public final class TicketsTest {
     }
 
     private static void ticket() {
-        ToteHouse x = dayOf(4, 0, 10);
+        ToteHouse x = Days.ofOneRace(4, 0, 10);
         due("14: none", x.ticket(0, 0), UNKNOWN);
         x.sell(3, ORDER, 4, 1, 2, 6);
         int[] want = {3, 4, 1, 2, 6, 0, 3, 0};
@@ -210,7 +188,7 @@ public final class TicketsTest {
         x.sell(0, WIN, 4, 0, 0, 1);
         x.cancel(3);
         x.scratch(0, 3);
-        finish(x, 0, 2, 3, 0, 1);
+        Days.finish(x, 0, 2, 3, 0, 1);
         due("14: a, b, c of WIN", x.ticket(1, 1) * 100 + x.ticket(1, 2) * 10 + x.ticket(1, 3), 100);
         due("14: DUE", x.ticket(2, 7), 5 * 10);
         due("14: DUE of one that did not WIN", x.ticket(1, 7), 0);
@@ -220,7 +198,7 @@ public final class TicketsTest {
     }
 
     private static void units() {
-        ToteHouse x = dayOf(4, 0, 10);
+        ToteHouse x = Days.ofOneRace(4, 0, 10);
         x.race(2);
         x.twin(0, 1, 0, 10);
         due("15: pool 4", x.units(4, 1, 0, 0), UNKNOWN);
@@ -249,7 +227,7 @@ public final class TicketsTest {
 
     /** No two PAIRS, ORDERS, DOUBLES of twelve RUNNERS share their UNITS. */
     private static void unitsOfTwelveRunners() {
-        ToteHouse x = dayOf(12, 0, 10);
+        ToteHouse x = Days.ofOneRace(12, 0, 10);
         x.race(12);
         x.twin(0, 1, 0, 10);
         for (int a = 1; a <= 12; a++) {
@@ -263,7 +241,7 @@ public final class TicketsTest {
             }
         }
         for (int t = 0; t < 5; t++) {
-            ToteHouse y = dayOf(12, 0, 10);
+            ToteHouse y = Days.ofOneRace(12, 0, 10);
             for (int a = 1; a <= 12; a++) {
                 y.sell(0, ORDER, a, a % 12 + 1, (a + 4 + t) % 12 + 1, a);
                 y.sell(0, PAIR, a, a % 12 + 1, 0, a);
@@ -280,7 +258,7 @@ public final class TicketsTest {
     }
 
     private static void dividend() {
-        ToteHouse x = dayOf(5, 0, 10);
+        ToteHouse x = Days.ofOneRace(5, 0, 10);
         x.sell(0, WIN, 1, 0, 0, 3);
         x.sell(0, WIN, 2, 0, 0, 4);
         due("16: pool 4", x.dividend(4, 1, 0, 0), UNKNOWN);
@@ -290,7 +268,7 @@ public final class TicketsTest {
         due("16: SAME ahead of STATE", x.dividend(ORDER, 1, 1, 2), SAME);
         x.sell(0, PAIR, 4, 1, 0, 2);
         x.sell(0, ORDER, 1, 4, 2, 1);
-        finish(x, 0, 1, 3, 0, 2, 0);
+        Days.finish(x, 0, 1, 3, 0, 2, 0);
         // 70 by 3 is 23, cut to 20
         due("16: WIN", x.dividend(WIN, 1, 0, 0), 20);
         due("16: it did not WIN", x.dividend(WIN, 2, 0, 0), 0);
@@ -303,11 +281,11 @@ public final class TicketsTest {
     }
 
     private static void winWithADeadHeat() {
-        ToteHouse x = dayOf(5, 55, 10);
+        ToteHouse x = Days.ofOneRace(5, 55, 10);
         x.sell(0, WIN, 1, 0, 0, 13);
         x.sell(0, WIN, 2, 0, 0, 1);
         x.sell(0, WIN, 4, 0, 0, 100);
-        finish(x, 0, 1, 1, 1, 4, 0);
+        Days.finish(x, 0, 1, 1, 1, 4, 0);
         // GROSS 1140, DEDUCTED 62 (62.7 cut), NET 1078; two TAKERS (3 has no UNITS), 539 each
         due("16: DEDUCTED", x.book(WIN, 3), 62);
         due("16: 539 by 13", x.dividend(WIN, 1, 0, 0), 40);
@@ -320,11 +298,11 @@ public final class TicketsTest {
 
     private static void placeByRunners() {
         for (int runners = 4; runners <= 8; runners++) {
-            ToteHouse x = dayOf(runners, 0, 10);
+            ToteHouse x = Days.ofOneRace(runners, 0, 10);
             for (int i = 1; i <= 4; i++) {
                 x.sell(0, PLACE, i, 0, 0, 10);
             }
-            finish(x, 0, 1, 2, 3, 4);
+            Days.finish(x, 0, 1, 2, 3, 4);
             int takers = runners < 5 ? 0 : runners < 8 ? 2 : 3;
             due("16: takers of " + runners, x.book(PLACE, 2), takers == 0 ? 400 : 0);
             for (int i = 1; i <= 4; i++) {
@@ -333,49 +311,49 @@ public final class TicketsTest {
                 due("16: PLACE of " + runners + ", runner " + i, x.dividend(PLACE, i, 0, 0), want);
             }
         }
-        ToteHouse y = dayOf(8, 0, 10);
+        ToteHouse y = Days.ofOneRace(8, 0, 10);
         y.sell(0, PLACE, 3, 0, 0, 10);
         y.sell(0, PLACE, 4, 0, 0, 10);
         y.scratch(0, 8);
-        finish(y, 0, 1, 2, 3, 4);
+        Days.finish(y, 0, 1, 2, 3, 4);
         due("16: seven are left of eight, the third does not WIN", y.book(PLACE, 2), 200);
-        ToteHouse z = dayOf(6, 0, 10);
+        ToteHouse z = Days.ofOneRace(6, 0, 10);
         for (int i = 1; i <= 4; i++) {
             z.sell(0, PLACE, i, 0, 0, 10);
         }
-        finish(z, 0, 1, 2, 2, 2);
+        Days.finish(z, 0, 1, 2, 2, 2);
         due("16: all with POSITION 2", z.dividend(PLACE, 4, 0, 0), 10);
-        ToteHouse w = dayOf(6, 0, 10);
+        ToteHouse w = Days.ofOneRace(6, 0, 10);
         for (int i = 1; i <= 4; i++) {
             w.sell(0, PLACE, i, 0, 0, 10);
         }
-        finish(w, 0, 1, 1, 3, 4);
+        Days.finish(w, 0, 1, 1, 3, 4);
         due("16: behind two firsts there is no second", w.dividend(PLACE, 3, 0, 0), 0);
         due("16: 200 by 2, by 10, and 10", w.dividend(PLACE, 1, 0, 0), 20);
     }
 
     private static void placeAtACost() {
-        ToteHouse x = dayOf(6, 500, 20);
+        ToteHouse x = Days.ofOneRace(6, 500, 20);
         x.sell(0, PLACE, 1, 0, 0, 10);
         x.sell(0, PLACE, 2, 0, 0, 5);
         x.sell(0, PLACE, 3, 0, 0, 3);
-        finish(x, 0, 1, 2, 3);
+        Days.finish(x, 0, 1, 2, 3);
         // GROSS 360, NET 180, STAKES of the TAKERS 300, GAIN -120
         due("16: the UNIT", x.dividend(PLACE, 1, 0, 0), 20);
         due("16: the UNIT of the other", x.dividend(PLACE, 2, 0, 0), 20);
         due("18: COST", x.book(PLACE, 7), 120);
         due("18: BREAKAGE", x.book(PLACE, 6), 0);
         due("18: DUE", x.book(PLACE, 8), 300);
-        ToteHouse y = dayOf(6, 0, 20);
+        ToteHouse y = Days.ofOneRace(6, 0, 20);
         y.sell(0, PLACE, 1, 0, 0, 10);
-        finish(y, 0, 1, 2, 3);
+        Days.finish(y, 0, 1, 2, 3);
         due("16: GAIN 0", y.dividend(PLACE, 1, 0, 0), 20);
         due("18: no COST", y.book(PLACE, 7), 0);
-        ToteHouse z = dayOf(6, 0, 20);
+        ToteHouse z = Days.ofOneRace(6, 0, 20);
         z.sell(0, PLACE, 1, 0, 0, 3);
         z.sell(0, PLACE, 2, 0, 0, 7);
         z.sell(0, PLACE, 6, 0, 0, 11);
-        finish(z, 0, 1, 2, 3);
+        Days.finish(z, 0, 1, 2, 3);
         // GAIN 220, 110 each: by 3 is 36, by 7 is 15
         due("16: 20 and 30", z.dividend(PLACE, 1, 0, 0), 50);
         due("16: 20 and 10", z.dividend(PLACE, 2, 0, 0), 30);
@@ -383,36 +361,36 @@ public final class TicketsTest {
     }
 
     private static void pairWithDeadHeats() {
-        ToteHouse x = dayOf(5, 0, 10);
+        ToteHouse x = Days.ofOneRace(5, 0, 10);
         for (int a = 1; a <= 5; a++) {
             for (int b = a + 1; b <= 5; b++) {
                 x.sell(0, PAIR, a, b, 0, 10);
             }
         }
-        finish(x, 0, 1, 2, 2, 4, 0);
+        Days.finish(x, 0, 1, 2, 2, 4, 0);
         due("16: first and a second", x.dividend(PAIR, 1, 2, 0), 50);
         due("16: first and the other second", x.dividend(PAIR, 3, 1, 0), 50);
         due("16: both seconds", x.dividend(PAIR, 2, 3, 0), 0);
         due("16: first and fourth", x.dividend(PAIR, 1, 4, 0), 0);
-        ToteHouse y = dayOf(5, 0, 10);
+        ToteHouse y = Days.ofOneRace(5, 0, 10);
         y.sell(0, PAIR, 1, 2, 0, 10);
         y.sell(0, PAIR, 1, 3, 0, 10);
         y.sell(0, PAIR, 2, 3, 0, 10);
         y.sell(0, PAIR, 3, 4, 0, 30);
-        finish(y, 0, 1, 1, 1, 4, 0);
+        Days.finish(y, 0, 1, 1, 1, 4, 0);
         due("16: three firsts make three PAIRS", y.dividend(PAIR, 2, 3, 0), 20);
         due("16: and no fourth", y.dividend(PAIR, 3, 4, 0), 0);
-        ToteHouse z = dayOf(5, 0, 10);
+        ToteHouse z = Days.ofOneRace(5, 0, 10);
         z.sell(0, PAIR, 1, 2, 0, 10);
         z.sell(0, PAIR, 1, 3, 0, 10);
-        finish(z, 0, 1, 1, 3, 4, 0);
+        Days.finish(z, 0, 1, 1, 3, 4, 0);
         due("16: two firsts are one TAKER", z.dividend(PAIR, 1, 2, 0), 20);
-        ToteHouse v = dayOf(2, 0, 10);
+        ToteHouse v = Days.ofOneRace(2, 0, 10);
         v.sell(0, PAIR, 1, 2, 0, 10);
-        finish(v, 0, 2, 1);
+        Days.finish(v, 0, 2, 1);
         due("16: two RUNNERS are enough", v.dividend(PAIR, 1, 2, 0), 10);
         due("18: nothing given back", v.book(PAIR, 2), 0);
-        ToteHouse w = dayOf(3, 100, 10);
+        ToteHouse w = Days.ofOneRace(3, 100, 10);
         w.sell(0, PAIR, 1, 2, 0, 10);
         w.scratch(0, 1);
         w.scratch(0, 3);
@@ -425,28 +403,28 @@ public final class TicketsTest {
     }
 
     private static void orderWithDeadHeats() {
-        ToteHouse x = dayOf(5, 0, 10);
+        ToteHouse x = Days.ofOneRace(5, 0, 10);
         x.sell(0, ORDER, 1, 2, 3, 1);
         x.sell(0, ORDER, 1, 3, 2, 2);
         x.sell(0, ORDER, 2, 1, 3, 4);
         x.sell(0, ORDER, 1, 2, 4, 5);
-        finish(x, 0, 1, 2, 2, 4, 0);
+        Days.finish(x, 0, 1, 2, 2, 4, 0);
         // NET 120, two TAKERS
         due("16: 60 by 1", x.dividend(ORDER, 1, 2, 3), 60);
         due("16: 60 by 2", x.dividend(ORDER, 1, 3, 2), 30);
         due("16: a second ahead of the first", x.dividend(ORDER, 2, 1, 3), 0);
         due("16: a fourth ahead of a second", x.dividend(ORDER, 1, 2, 4), 0);
-        ToteHouse y = dayOf(5, 0, 10);
+        ToteHouse y = Days.ofOneRace(5, 0, 10);
         y.sell(0, ORDER, 1, 2, 3, 1);
         y.sell(0, ORDER, 1, 2, 4, 1);
         y.sell(0, ORDER, 2, 1, 4, 1);
         y.sell(0, ORDER, 1, 3, 4, 9);
-        finish(y, 0, 1, 2, 3, 3, 0);
+        Days.finish(y, 0, 1, 2, 3, 3, 0);
         due("16: one third", y.dividend(ORDER, 1, 2, 3), 60);
-        ToteHouse z = dayOf(3, 0, 10);
+        ToteHouse z = Days.ofOneRace(3, 0, 10);
         z.sell(0, ORDER, 3, 2, 1, 4);
         z.sell(0, PAIR, 3, 2, 0, 4);
-        finish(z, 0, 3, 2, 1);
+        Days.finish(z, 0, 3, 2, 1);
         due("16: the greatest number first, the least last", z.dividend(ORDER, 3, 2, 1), 10);
         due("16: and its PAIR", z.dividend(PAIR, 3, 2, 0), 10);
         due("16: the other third", y.dividend(ORDER, 1, 2, 4), 60);
@@ -454,12 +432,12 @@ public final class TicketsTest {
     }
 
     private static void orderIsCarried() {
-        ToteHouse x = dayOf(4, 100, 10);
-        addRace(x, 4, 0, 10);
+        ToteHouse x = Days.ofOneRace(4, 100, 10);
+        Days.addRace(x, 4, 0, 10);
         x.sell(0, ORDER, 1, 2, 3, 11);
         x.sell(0, 4 + ORDER, 1, 2, 3, 4);
         x.sell(0, 4 + ORDER, 3, 2, 1, 1);
-        finish(x, 0, 3, 2, 1, 0);
+        Days.finish(x, 0, 3, 2, 1, 0);
         due("18: DEDUCTED", x.book(ORDER, 3), 11);
         due("18: CARRIED OUT", x.book(ORDER, 5), 99);
         due("18: BREAKAGE", x.book(ORDER, 6), 0);
@@ -470,46 +448,46 @@ public final class TicketsTest {
         due("10: CARRIED IN", x.raceAt(1, 4), 99);
         due("19: not to THE REST", x.rest(), 0);
         due("17: odds with it", x.odds(4 + ORDER, 1, 2, 3), 30);
-        finish(x, 1, 1, 2, 3, 0);
+        Days.finish(x, 1, 1, 2, 3, 0);
         // NET 50 and 99, by 4 is 37
         due("16: with it", x.dividend(4 + ORDER, 1, 2, 3), 30);
         due("18: BREAKAGE of all", x.book(4 + ORDER, 6), 29);
         due("18: CARRIED IN stays told", x.book(4 + ORDER, 4), 99);
-        ToteHouse y = dayOf(4, 0, 10);
+        ToteHouse y = Days.ofOneRace(4, 0, 10);
         y.sell(0, ORDER, 1, 2, 3, 5);
-        finish(y, 0, 3, 2, 1, 0);
+        Days.finish(y, 0, 3, 2, 1, 0);
         due("19: THE REST", y.rest(), 50);
     }
 
     private static void orderIsCarriedPastRaces() {
         ToteHouse x = new ToteHouse();
-        addRace(x, 4, 0, 10);
-        addRace(x, 4, 0, 10);
-        addRace(x, 4, 0, 10);
+        Days.addRace(x, 4, 0, 10);
+        Days.addRace(x, 4, 0, 10);
+        Days.addRace(x, 4, 0, 10);
         x.race(4);
-        addRace(x, 4, 0, 10);
+        Days.addRace(x, 4, 0, 10);
         x.sell(0, 4 + ORDER, 1, 2, 3, 7);
-        finish(x, 2, 1, 2, 3);
+        Days.finish(x, 2, 1, 2, 3);
         x.off(4);
-        finish(x, 1, 3, 2, 1);
+        Days.finish(x, 1, 3, 2, 1);
         due("18: past one OFFICIAL, past one without an ORDER, to one that is OFF", x.book(16 + ORDER, 4), 70);
         due("18: not to one ahead", x.book(ORDER, 4), 0);
         due("10: none without an ORDER", x.raceAt(3, 4), 0);
         x.sell(0, ORDER, 1, 2, 3, 2);
-        finish(x, 0, 3, 2, 1);
+        Days.finish(x, 0, 3, 2, 1);
         due("18: on top", x.book(16 + ORDER, 4), 90);
-        finish(x, 4, 3, 2, 1);
+        Days.finish(x, 4, 3, 2, 1);
         due("18: CARRIED OUT again", x.book(16 + ORDER, 5), 90);
         due("19: THE REST at last", x.rest(), 90);
         ToteHouse y = new ToteHouse();
-        addRace(y, 3, 0, 10);
-        addRace(y, 4, 500, 10);
+        Days.addRace(y, 3, 0, 10);
+        Days.addRace(y, 4, 500, 10);
         y.sell(0, ORDER, 1, 2, 3, 6);
-        finish(y, 0, 3, 2, 1);
+        Days.finish(y, 0, 3, 2, 1);
         y.sell(0, 4 + ORDER, 2, 3, 4, 8);
         y.scratch(1, 1);
         y.scratch(1, 2);
-        finish(y, 1, 0, 0, 1, 2);
+        Days.finish(y, 1, 0, 0, 1, 2);
         due("18: VOID: what was CARRIED IN alone", y.book(4 + ORDER, 5), 60);
         due("18: VOID: REFUNDED", y.book(4 + ORDER, 2), 80);
         due("18: VOID: nothing DEDUCTED", y.book(4 + ORDER, 3), 0);
@@ -525,8 +503,8 @@ public final class TicketsTest {
         x.sell(0, DOUBLE, 2, 3, 0, 2);
         x.sell(0, DOUBLE, 1, 3, 0, 4);
         x.sell(0, DOUBLE, 3, 1, 0, 21);
-        finish(x, 0, 1, 1, 3);
-        finish(x, 1, 2, 3, 1);
+        Days.finish(x, 0, 1, 1, 3);
+        Days.finish(x, 1, 2, 3, 1);
         // GROSS 300, NET 270, 135 each: by 7 is 19, by 2 is 67
         due("16: THE DOUBLE", x.dividend(DOUBLE, 1, 3, 0), 10);
         due("16: THE DOUBLE of the other first", x.dividend(DOUBLE, 2, 3, 0), 60);
@@ -542,8 +520,8 @@ public final class TicketsTest {
                 y.sell(0, DOUBLE, a, b, 0, 1);
             }
         }
-        finish(y, 0, 3, 1, 1);
-        finish(y, 1, 1, 1, 3);
+        Days.finish(y, 0, 3, 1, 1);
+        Days.finish(y, 1, 1, 1, 3);
         for (int a = 1; a <= 3; a++) {
             for (int b = 1; b <= 3; b++) {
                 // four TAKERS of 22 each
@@ -553,7 +531,7 @@ public final class TicketsTest {
     }
 
     private static void noTakers() {
-        ToteHouse x = dayOf(6, 200, 10);
+        ToteHouse x = Days.ofOneRace(6, 200, 10);
         x.race(3);
         x.twin(0, 1, 200, 10);
         x.sell(0, WIN, 5, 0, 0, 1);
@@ -562,8 +540,8 @@ public final class TicketsTest {
         x.sell(0, DOUBLE, 5, 1, 0, 4);
         x.sell(0, WIN, 6, 0, 0, 5);
         x.cancel(4);
-        due("9: all", finish(x, 0, 1, 2, 3, 4, 0, 0), 4);
-        finish(x, 1, 1, 2, 3);
+        due("9: all", Days.finish(x, 0, 1, 2, 3, 4, 0, 0), 4);
+        Days.finish(x, 1, 1, 2, 3);
         int[] pools = {WIN, PLACE, PAIR, DOUBLE};
         for (int i = 0; i < 4; i++) {
             due("18: REFUNDED of pool " + pools[i], x.book(pools[i], 2), 10 * (i + 1));
@@ -580,7 +558,7 @@ public final class TicketsTest {
     }
 
     private static void odds() {
-        ToteHouse x = dayOf(8, 100, 10);
+        ToteHouse x = Days.ofOneRace(8, 100, 10);
         x.sell(0, WIN, 2, 0, 0, 5);
         x.sell(0, WIN, 3, 0, 0, 5);
         x.sell(0, PLACE, 1, 0, 0, 5);
@@ -611,13 +589,13 @@ public final class TicketsTest {
         x.place(0, 5, 1);
         due("17: OFF, and others have no POSITION", x.odds(WIN, 2, 1, 3), 10);
         due("17: as it was", x.raceAt(0, 15), 1);
-        ToteHouse y = dayOf(4, 0, 10);
+        ToteHouse y = Days.ofOneRace(4, 0, 10);
         y.sell(0, PLACE, 1, 0, 0, 1);
         due("17: VOID", y.odds(PLACE, 1, 2, 3), 0);
     }
 
     private static void oddsRefusals() {
-        ToteHouse x = dayOf(4, 0, 10);
+        ToteHouse x = Days.ofOneRace(4, 0, 10);
         x.race(4);
         x.twin(0, 1, 0, 10);
         due("17: pool 4", x.odds(4, 1, 2, 3), UNKNOWN);
@@ -635,13 +613,13 @@ public final class TicketsTest {
         due("17: b OUT", x.odds(WIN, 1, 4, 3), GONE);
         due("17: c OUT", x.odds(WIN, 1, 2, 4), GONE);
         due("17: SAME ahead of GONE", x.odds(WIN, 4, 4, 3), SAME);
-        finish(x, 0, 1, 2, 3);
+        Days.finish(x, 0, 1, 2, 3);
         due("17: GONE ahead of STATE", x.odds(WIN, 4, 2, 3), GONE);
         due("17: OFFICIAL", x.odds(WIN, 1, 2, 3), STATE);
     }
 
     private static void book() {
-        ToteHouse x = dayOf(5, 100, 10);
+        ToteHouse x = Days.ofOneRace(5, 100, 10);
         due("18: pool 4", x.book(4, 0), UNKNOWN);
         due("18: pool -1", x.book(-1, 0), UNKNOWN);
         due("18: THE DOUBLE", x.book(DOUBLE, 0), UNKNOWN);
@@ -658,7 +636,7 @@ public final class TicketsTest {
         for (int what = 0; what <= 10; what++) {
             due("18: before, " + what, x.book(WIN, what), before[what]);
         }
-        finish(x, 0, 1, 2, 0, 3);
+        Days.finish(x, 0, 1, 2, 0, 3);
         x.pay(0);
         int[] after = {1500, 200, 800, 50, 0, 0, 50, 0, 400, 400, 1};
         for (int what = 0; what <= 10; what++) {
@@ -667,21 +645,21 @@ public final class TicketsTest {
     }
 
     private static void unclaimed() {
-        ToteHouse x = dayOf(5, 0, 10);
-        addRace(x, 5, 0, 10);
+        ToteHouse x = Days.ofOneRace(5, 0, 10);
+        Days.addRace(x, 5, 0, 10);
         x.sell(0, WIN, 1, 0, 0, 10);
         x.sell(0, WIN, 1, 0, 0, 20);
         x.sell(0, PAIR, 1, 2, 0, 5);
         x.sell(0, 4 + WIN, 1, 0, 0, 5);
         due("20: none SETTLED", x.unclaimed(), 0);
-        finish(x, 0, 1, 2, 3);
+        Days.finish(x, 0, 1, 2, 3);
         due("20: of SETTLED POOLS", x.unclaimed(), 350);
         x.pay(1);
         due("20: less what was PAID", x.unclaimed(), 150);
     }
 
     private static void worst() {
-        ToteHouse x = dayOf(5, 0, 10);
+        ToteHouse x = Days.ofOneRace(5, 0, 10);
         due("21: no race", x.worst(1), UNKNOWN);
         due("21: no TICKETS, the first ROW", x.worst(0), 10203);
         due("22: nothing", x.worstDue(), 0);
@@ -704,13 +682,13 @@ public final class TicketsTest {
         due("21: nothing is changed", x.digest(), before);
         x.off(0);
         due("21: OFF", x.worst(0), 40301);
-        finish(x, 0, 1, 2, 3);
+        Days.finish(x, 0, 1, 2, 3);
         due("21: OFFICIAL", x.worst(0), STATE);
         due("22: of the latest that was not refused", x.worstDue(), 290);
     }
 
     private static void worstOfTwo() {
-        ToteHouse x = dayOf(4, 0, 10);
+        ToteHouse x = Days.ofOneRace(4, 0, 10);
         x.sell(0, WIN, 3, 0, 0, 5);
         x.scratch(0, 2);
         x.scratch(0, 4);
@@ -723,28 +701,28 @@ public final class TicketsTest {
         x.place(0, 3, 1);
         x.official(0);
         due("21: STATE ahead of GONE", x.worst(0), STATE);
-        ToteHouse y = dayOf(4, 0, 10);
+        ToteHouse y = Days.ofOneRace(4, 0, 10);
         y.sell(0, PAIR, 2, 4, 0, 5);
         y.scratch(0, 1);
         due("21: those that are not OUT", y.worst(0), 20403);
     }
 
     private static void worstWithCarriedIn() {
-        ToteHouse x = dayOf(4, 0, 10);
-        addRace(x, 4, 0, 10);
+        ToteHouse x = Days.ofOneRace(4, 0, 10);
+        Days.addRace(x, 4, 0, 10);
         x.race(4);
         x.twin(1, 2, 0, 10);
         x.sell(0, ORDER, 1, 2, 3, 10);
         x.sell(0, 4 + ORDER, 4, 2, 3, 1);
         x.sell(0, DOUBLE, 1, 1, 0, 1000);
-        finish(x, 0, 3, 2, 1);
-        finish(x, 2, 1, 2, 3);
+        Days.finish(x, 0, 3, 2, 1);
+        Days.finish(x, 2, 1, 2, 3);
         due("21: ORDER with what was CARRIED IN, and not THE DOUBLE", x.worst(1), 40203);
         due("22: 110", x.worstDue(), 110);
     }
 
     private static void premium() {
-        ToteHouse x = dayOf(5, 333, 10);
+        ToteHouse x = Days.ofOneRace(5, 333, 10);
         due("23: window 6", x.premium(6), UNKNOWN);
         due("23: window -1", x.premium(-1), UNKNOWN);
         due("23: no TICKET", x.premium(0), -16);
@@ -755,7 +733,7 @@ public final class TicketsTest {
         x.sell(1, PAIR, 2, 3, 0, 1);
         x.cancel(2);
         due("23: nothing DEDUCTED", x.premium(0), 0);
-        finish(x, 0, 1, 2, 3);
+        Days.finish(x, 0, 1, 2, 3);
         // 170 times 333 by 1000 is 56; the PAIR is REFUNDED; UNITS of any state: 10, 13
         due("49: DEDUCTED", x.count(5), 56);
         due("23: 560 by 23", x.premium(0), 24);
@@ -765,13 +743,13 @@ public final class TicketsTest {
 
     /** 200 TICKETS of the dearest kind: sums that go beyond an int on the way. */
     private static void greatSums() {
-        ToteHouse x = dayOf(5, 500, 1000);
+        ToteHouse x = Days.ofOneRace(5, 500, 1000);
         for (int t = 0; t < 200; t++) {
             x.sell(t % 2, WIN, 1 + t % 2, 0, 0, 1000);
         }
         due("18: 200 000 000", x.book(WIN, 0), 200_000_000);
         due("17: odds", x.odds(WIN, 1, 2, 3), 1000);
-        finish(x, 0, 1, 2, 3);
+        Days.finish(x, 0, 1, 2, 3);
         due("18: DEDUCTED", x.book(WIN, 3), 100_000_000);
         due("16: dividend", x.dividend(WIN, 1, 0, 0), 1000);
         due("18: DUE", x.book(WIN, 8), 100_000_000);
