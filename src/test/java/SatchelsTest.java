@@ -23,20 +23,8 @@ public final class SatchelsTest {
         Expect.due(call, got, want);
     }
 
-    /** TICKETS 0 to 4 of KINDS 0 to 4 in SLIPS 0 to 4 of WINDOW 0; then NOTHING, a NOTE, a ROW. */
-    private static ToteHouse furnished() {
-        ToteHouse x = Days.ofAllKinds(1);
-        x.drawer(0, 8);
-        for (int t = 0; t < 5; t++) {
-            x.keep(0, t, t);
-        }
-        x.note(0, 6, 1L, 1);
-        x.coins(0, 7, 1);
-        return x;
-    }
-
     private static void satchel() {
-        ToteHouse x = furnished();
+        ToteHouse x = Days.ofAllSlips();
         due("36: -1", x.satchel(-1, 0, 1), UNKNOWN);
         due("36: 4", x.satchel(4, 0, 1), UNKNOWN);
         due("36: UNKNOWN first", x.satchel(4, 9, -1), UNKNOWN);
@@ -64,7 +52,7 @@ public final class SatchelsTest {
     private static void forms() {
         String[] taken = {"01234", "01", "23", "3", "4", "1"};
         for (int form = 0; form < 6; form++) {
-            ToteHouse x = furnished();
+            ToteHouse x = Days.ofAllSlips();
             x.satchel(2, form, 1);
             for (int kind = 0; kind < 5; kind++) {
                 boolean takes = taken[form].indexOf('0' + kind) >= 0;
@@ -79,7 +67,7 @@ public final class SatchelsTest {
     }
 
     private static void gather() {
-        ToteHouse x = furnished();
+        ToteHouse x = Days.ofAllSlips();
         x.satchel(0, 0, 10);
         due("37: three", x.gather(0, 4, 0, 2, 3), 3);
         int[] want = {NONE, NONE, NONE, NONE, 2, 3, 4, NONE};
@@ -103,7 +91,7 @@ public final class SatchelsTest {
     }
 
     private static void gatherRefusals() {
-        ToteHouse x = furnished();
+        ToteHouse x = Days.ofAllSlips();
         due("37: SATCHEL 4", x.gather(4, 0, 0, 0, 1), UNKNOWN);
         due("37: SATCHEL -1", x.gather(-1, 0, 0, 0, 1), UNKNOWN);
         due("37: WINDOW 6", x.gather(0, 0, 6, 0, 1), UNKNOWN);
@@ -116,7 +104,7 @@ public final class SatchelsTest {
     }
 
     private static void gatherInTheOrderOfFindings() {
-        ToteHouse x = furnished();
+        ToteHouse x = Days.ofAllSlips();
         due("37: LOST, no SATCHEL", x.gather(0, 0, 1, 0, 1), NULL);
         due("37: SLIP 8 ahead of no SATCHEL", x.gather(0, 0, 0, 8, 1), INDEX);
         due("37: SLIP -1 ahead of no SATCHEL", x.gather(0, 0, 0, -1, 1), INDEX);
@@ -137,7 +125,7 @@ public final class SatchelsTest {
     }
 
     private static void shift() {
-        ToteHouse x = furnished();
+        ToteHouse x = Days.ofAllSlips();
         x.satchel(0, 0, 6);
         x.gather(0, 0, 0, 0, 5);
         x.satchel(1, 2, 4);
@@ -160,7 +148,7 @@ public final class SatchelsTest {
     }
 
     private static void shiftWithinOne() {
-        ToteHouse x = furnished();
+        ToteHouse x = Days.ofAllSlips();
         x.satchel(0, 0, 6);
         x.gather(0, 0, 0, 0, 5);
         due("38: upward, as they were", x.shift(0, 0, 0, 1, 5), 5);
@@ -180,7 +168,7 @@ public final class SatchelsTest {
     }
 
     private static void shiftRefusals() {
-        ToteHouse x = furnished();
+        ToteHouse x = Days.ofAllSlips();
         due("38: s 4", x.shift(4, 0, 0, 0, 1), UNKNOWN);
         due("38: t -1", x.shift(0, 0, -1, 0, 1), UNKNOWN);
         due("38: t 4", x.shift(0, 0, 4, 0, 11), UNKNOWN);
@@ -206,7 +194,7 @@ public final class SatchelsTest {
     }
 
     private static void came() {
-        ToteHouse x = furnished();
+        ToteHouse x = Days.ofAllSlips();
         due("39: before", x.came(), 0);
         x.satchel(0, 0, 5);
         x.gather(0, 0, 0, 0, 4);
@@ -225,7 +213,7 @@ public final class SatchelsTest {
     }
 
     private static void held() {
-        ToteHouse x = furnished();
+        ToteHouse x = Days.ofAllSlips();
         due("40: s 4", x.held(4, 0), UNKNOWN);
         due("40: s -1", x.held(-1, 0), UNKNOWN);
         due("40: none", x.held(0, 0), NULL);
