@@ -889,9 +889,10 @@ public final class ToteHouse {
     }
 
     private int kindOf(Slip slip) {
+        Ticket held = findTicket(slip.ticket);
         switch (slip.holds) {
             case HOLDS_TICKET:
-                return tickets[slip.ticket].pool.kind;
+                return held == null ? NONE : held.pool.kind;
             case HOLDS_NOTE:
                 return 5;
             case HOLDS_COINS:
@@ -1340,8 +1341,8 @@ public final class ToteHouse {
                 shared = Math.max(0, gain);
             }
             for (int i = 0; i < takers; i++) {
-                // above 0, by take()
-                int units = pool.live[line[i]];
+                // take() leaves out those of no UNITS; a divisor is made sure of where it divides
+                int units = Math.max(pool.live[line[i]], 1);
                 dividend[i] = base + shared / takers / units / 10 * 10;
                 due += units * dividend[i];
             }

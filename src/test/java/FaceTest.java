@@ -82,6 +82,7 @@ public final class FaceTest {
                 .filter(f -> !Modifier.isStatic(f.getModifiers())).count() <= 20);
             for (Method m : c.getDeclaredMethods()) {
                 Expect.holds(m + " has at most seven parameters", m.getParameterCount() <= 7);
+                Expect.holds(m + " bears no public name", !(" " + FACE).matches("(?s).*\\s" + m.getName() + "\\(.*"));
             }
         }
         Expect.holds("ToteHouse has at most twenty fields", Arrays.stream(ToteHouse.class.getDeclaredFields())
