@@ -81,6 +81,33 @@ public final class RandomRunsTest {
             step();
         }
         call("digest");
+        moneyIsKept();
+    }
+
+    /** What the document's words on money come to, whatever the plain tote says: no cent is made or lost. */
+    private void moneyIsKept() {
+        long carried = house.rest();
+        long unclaimed = house.unclaimed();
+        for (int pool = 0; pool <= 48; pool++) {
+            long[] book = new long[11];
+            for (int what = 0; what < book.length; what++) {
+                book[what] = Math.max(0, house.book(pool, what));
+            }
+            carried += book[4] - book[5];
+            unclaimed -= book[10] == 1 ? book[8] - book[9] : 0;
+            long in = book[0] - book[1] - book[2] + book[4] + book[7];
+            requireKept("POOL " + pool, book[10] == 1 ? in - book[3] - book[5] - book[6] - book[8] : 0);
+        }
+        requireKept("CARRIED", carried);
+        requireKept("unclaimed", unclaimed);
+    }
+
+    private void requireKept(String what, long left) {
+        if (left != 0) {
+            wrong++;
+            run.forEach(System.out::println);
+            System.out.println(what + " leaves " + left + ", due is 0");
+        }
     }
 
     private void step() {
